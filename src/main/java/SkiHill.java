@@ -168,10 +168,10 @@ public final class SkiHill {
         // The TAPE is used up by every rule(), also by one that throws.
         tapeLength = 0;
         Slope told = slopeAt(slope);
-        faultByte = NONE;
+        boolean right = reader.takes(tape, length, slopes.size(), lifts.size());
+        faultByte = reader.wrongByte;
         faultSlopes = 0;
-        if (!reader.takes(tape, length, slopes.size(), lifts.size())) {
-            faultByte = reader.wrongByte;
+        if (!right) {
             throw new IllegalArgumentException();
         }
         faultSlopes = circleWith(told, reader.named);
@@ -650,8 +650,8 @@ public final class SkiHill {
         }
 
         int leastDepth() {
-            int least = Integer.MAX_VALUE;
-            for (int k = 0; k < cells.size(); k++) {
+            int least = cells.isEmpty() ? 0 : cells.get(0).depth();
+            for (int k = 1; k < cells.size(); k++) {
                 least = Math.min(least, cells.get(k).depth());
             }
             return least;
@@ -718,7 +718,6 @@ public final class SkiHill {
 
         void rideOn(Lift lift) {
             state = RIDES;
-            where = lift.number;
             endPlace = lift.to;
             toGo = lift.minutes;
             rides++;
@@ -827,7 +826,7 @@ public final class SkiHill {
      */
     private static final class Carrier {
         private static final int MOST_PATHS = 1000000;
-        private static final int UNREACHED = Integer.MAX_VALUE;
+        private static final int UNREACHED = 1 << 30;
         // A way's cost counts so many times more than its LINKS: of ways that cost the same the one of fewest LINKS
         // is taken, which keeps the number of ways small whatever the amounts are.
         private static final int COST_WEIGHT = 64;
@@ -1074,20 +1073,16 @@ public final class SkiHill {
             if (at >= length) {
                 kind = TEXT_END;
             } else if (isLetter(byteAt(at))) {
-                advanceWord();
+                while (at < length && isLetter(byteAt(at))) {
+                    at++;
+                }
+                kind = kindOfWord();
             } else if (isDigit(byteAt(at))) {
                 advanceNumber();
             } else {
                 kind = kindOfSign(byteAt(at));
                 at++;
             }
-        }
-
-        private void advanceWord() {
-            while (at < length && isLetter(byteAt(at))) {
-                at++;
-            }
-            kind = kindOfWord();
         }
 
         private void advanceNumber() {

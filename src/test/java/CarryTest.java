@@ -12,6 +12,7 @@ public final class CarryTest {
         prices();
         small();
         great();
+        manyOrOne();
         dual();
         Check.close();
     }
@@ -184,6 +185,8 @@ public final class CarryTest {
         Check.due("26: too much at a price below 0", x.judge(), 0);
         x.price(3, 2);
         Check.due("26: too much at a price above 0", x.judge(), -18);
+        x.price(3, 1);
+        Check.due("26: too much at 1", x.judge(), -9);
         x.price(3, 0);
         Check.due("26: too much at 0", x.judge(), 0);
         x.want(0, 1000000);
@@ -304,6 +307,20 @@ public final class CarryTest {
         x.snow(0, false, 1);
         // Pushing one along from the other end spares what 39 would give to cell 1.
         Check.due("24: one from the other end", x.least(), due - 3800 + 100 + 1900);
+    }
+
+    /** Many short LINKS against one long one that is a little longer, as long and a little shorter. */
+    private static void manyOrOne() {
+        for (int length = 38; length <= 41; length++) {
+            SkiHill x = hill(40);
+            for (int k = 38; k >= 0; k--) {
+                x.link(k + 1, k, 1);
+            }
+            x.link(39, 0, length);
+            x.snow(0, true, 1000);
+            x.want(39, 1000);
+            Check.due("24: 39 links of 1 or one of " + length, x.least(), 1000 * Math.min(39, length));
+        }
     }
 
     /** What taken PRICES tell is never above LEAST, and the PRICES of the shortest ways reach it in a row of CELLS. */

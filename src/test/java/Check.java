@@ -23,7 +23,7 @@ final class Check {
         due(call, got ? 1 : 0, want ? 1 : 0);
     }
 
-    /** The call must throw just this class, nothing above or below it. */
+    /** The call must throw just this class, nothing above or below it, and SkiHill itself must throw it, not what it calls. */
     static void thrown(String call, Class<? extends RuntimeException> want, Call made) {
         try {
             long got = made.answer();
@@ -31,6 +31,7 @@ final class Check {
             System.out.println(call + " answered " + got + ", due is throws." + want.getSimpleName());
         } catch (RuntimeException e) {
             due(call + " throws " + e.getClass().getSimpleName() + " for " + want.getSimpleName(), e.getClass() == want, true);
+            due(call + " throws by a throw of its own", e.getStackTrace()[0].getClassName().startsWith("SkiHill"), true);
         }
     }
 

@@ -16,6 +16,7 @@ public final class DayTest {
         skillAndPlace();
         wearing();
         wearingByKinds();
+        someFree();
         onwards();
         Check.close();
     }
@@ -395,6 +396,23 @@ public final class DayTest {
         x.step(1);
         Check.due("14: pushed snow is worn anew", x.cell(0, 3), 10);
         Check.due("27: worn anew", x.count(11), 105);
+    }
+
+    private static void someFree() {
+        SkiHill x = new SkiHill();
+        x.slope(0, 1, 20, 0, 1);
+        x.slope(2, 1, 20, 0, 1);
+        Check.rule(x, 0, "wind = 1");
+        x.group(1, 0, 0);
+        x.group(1, 0, 2);
+        x.step(1);
+        group(x, 0, 0, 0, 0, 0, 0);
+        group(x, 1, 3, 1, 20, 0, 1);
+        x.wind(1);
+        x.step(1);
+        // Group 0 goes down though the last one of all is on its way.
+        group(x, 0, 3, 0, 20, 0, 1);
+        group(x, 1, 3, 1, 19, 0, 1);
     }
 
     private static void onwards() {

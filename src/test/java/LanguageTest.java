@@ -12,7 +12,7 @@ public final class LanguageTest {
         "->", "::", "\\bcatch\\b", "\\btry\\b", "\\bfinally\\b", "\\bsynchronized\\b", "\\bassert\\b", "\\bpackage\\b",
         "\\bprotected\\b", "\\bvar\\b", "\\bnative\\b", "\\bvolatile\\b", "\\btransient\\b", "\\bthread", "\\bThread\\b",
         "\\bSystem\\.(?!arraycopy)", "Exact\\(", "\\bgetClass\\b", "\\bhashCode\\b", "\\bString\\.", "\\bMath\\.(?!min|max|abs)",
-        "\\bInteger\\.(?!bitCount|MAX_VALUE|MIN_VALUE)", "\\bArrays\\.(?!copyOf|fill)", "\\brandom", "\\bfor \\([^;]*;\\s*;");
+        "\\bInteger\\.(?!bitCount)", "\\bArrays\\.(?!copyOf|fill)", "\\brandom", "\\bfor \\([^;]*;\\s*;");
 
     public static void main(String[] args) throws IOException {
         String source = Files.readString(Path.of("src/main/java/SkiHill.java"));

@@ -10,6 +10,8 @@ public final class RuleTest {
         bindings();
         namings();
         leaning();
+        faultsInTurn();
+        manyRules();
         wrongCalls();
         longestText();
         Check.close();
@@ -71,6 +73,18 @@ public final class RuleTest {
         wrong("notsnow < 1", 0);
         wrong("nots", 0);
         wrong("sno", 0);
+        wrong("snowz < 1", 0);
+        wrong("zsnow < 1", 0);
+        for (String word : new String[] {"now < 1", "ind < 1", "our < 1", "orn < 1", "pen 1", "ift 0", "ot lift 0"}) {
+            wrong("x" + word, 0);
+            wrong(word, 0);
+        }
+        wrong("lift 0 xnd lift 0", 7);
+        wrong("lift 0 xr lift 0", 7);
+        wrong("(and lift 0", 1);
+        wrong("(or lift 0)", 1);
+        wrong("(lift 0 and or lift 1)", 12);
+        wrong("not (and lift 0", 5);
         wrong("Snow < 1", 0);
         wrong("snOw < 1", 0);
         wrong("snow < 1 AND wind < 1", 9);
@@ -347,6 +361,34 @@ public final class RuleTest {
         circle(x, 0, "open 9", 1023);
         circle(x, 0, "open 4", 0b11111);
         Check.due("9: all are open still", x.open(9), true);
+    }
+
+    private static void faultsInTurn() {
+        SkiHill x = hill();
+        Check.text(x, "open 0");
+        Check.thrown("6: circle", IllegalStateException.class, () -> x.rule(0));
+        Check.text(x, "wind or");
+        Check.number("6: wrong behind a circle", () -> x.rule(0));
+        Check.due("8: its wrong byte", x.fault(0), 5);
+        Check.due("8: its circle is none", x.fault(1), 0);
+        Check.text(x, "open 1 or open 0");
+        Check.thrown("6: circle behind a wrong text", IllegalStateException.class, () -> x.rule(0));
+        Check.due("8: it has no wrong byte", x.fault(0), SkiHill.NONE);
+        Check.due("8: its circle", x.fault(1), 1);
+        Check.text(x, "wind");
+        Check.number("6: wrong", () -> x.rule(0));
+        Check.due("6: right behind a wrong text", Check.rule(x, 0, "open 1"), 1);
+        Check.due("8: no wrong byte", x.fault(0), SkiHill.NONE);
+        Check.due("8: no circle", x.fault(1), 0);
+    }
+
+    private static void manyRules() {
+        SkiHill x = hill();
+        for (int k = 0; k < 80; k++) {
+            String text = k % 2 == 0 ? "not lift 0 or not lift 1 or lift 0" : "lift 0 and not (lift 1 or lift 0 and lift 0)";
+            Check.due("6: rule " + k, Check.rule(x, k % 3, text), 0);
+            Check.due("9: rule " + k, x.open(k % 3), k % 2 == 0);
+        }
     }
 
     private static void wrongCalls() {
