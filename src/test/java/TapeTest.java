@@ -4,6 +4,7 @@ public final class TapeTest {
         fills();
         cuts();
         ordersBytes();
+        endsWithinWords();
         Check.close();
     }
 
@@ -38,6 +39,25 @@ public final class TapeTest {
         Check.due("3: end(7)", x.end(7), true);
         Check.due("3: end(8) of 7", x.end(8), false);
         Check.due("3: seven are left", x.feed(0, 0, 0, 0, 0), 27);
+    }
+
+    /** Bytes that end() took away are no part of the text, though letters and digits go on there. */
+    private static void endsWithinWords() {
+        SkiHill x = new SkiHill();
+        x.slope(0, 0, 1, 0, 1);
+        Check.text(x, "notx");
+        x.end(3);
+        Check.number("3: not of notx", () -> x.rule(0));
+        Check.due("8: more must come behind not", x.fault(0), 3);
+        Check.text(x, "wind < 1234");
+        x.end(8);
+        Check.due("3: wind < 1 of wind < 1234", x.rule(0), 0);
+        x.wind(1);
+        Check.due("9: wind is not below 1", x.open(0), false);
+        Check.text(x, "wind < 1234567");
+        x.end(13);
+        Check.due("3: six digits of seven", x.rule(0), 0);
+        Check.due("9: wind < 123456", x.open(0), true);
     }
 
     private static void ordersBytes() {
