@@ -2,6 +2,7 @@
 final class Check {
     private static int right = 0;
     private static int wrong = 0;
+    private static String sentence = "";
 
     interface Call {
         long answer();
@@ -10,13 +11,18 @@ final class Check {
     private Check() {
     }
 
+    /** What follows tests this sentence, or part of one, as the document writes it. */
+    static void sentence(String told) {
+        sentence = "[" + told + "] ";
+    }
+
     static void due(String call, long got, long want) {
         if (got == want) {
             right++;
             return;
         }
         wrong++;
-        System.out.println(call + " answered " + got + ", due is " + want);
+        System.out.println(sentence + call + " answered " + got + ", due is " + want);
     }
 
     static void due(String call, boolean got, boolean want) {
@@ -28,7 +34,7 @@ final class Check {
         try {
             long got = made.answer();
             wrong++;
-            System.out.println(call + " answered " + got + ", due is throws." + want.getSimpleName());
+            System.out.println(sentence + call + " answered " + got + ", due is throws." + want.getSimpleName());
         } catch (RuntimeException e) {
             due(call + " throws " + e.getClass().getSimpleName() + " for " + want.getSimpleName(), e.getClass() == want, true);
             due(call + " throws by a throw of its own", e.getStackTrace()[0].getClassName().startsWith("SkiHill"), true);
