@@ -3,7 +3,7 @@ import java.util.function.LongSupplier;
 
 /** Runs of 512 calls, made by a chance that is the same each time, on a SkiHill and a PlainHill: each answer must be the same. */
 public final class CompareTest {
-    private static final int RUNS = 500;
+    private static final int RUNS = 700;
     private static final int CALLS = 512;
     private static final String[] PIECES = {"snow", "wind", "hour", "worn", "open", "lift", "not", "and", "or", "<", ">", "=",
         "(", ")", " ", "  ", "0", "1", "2", "9", "10", "000003", "1234567", "x", "Snow", "nott", "{", "\t", "\u00e9", "\u0000"};
@@ -13,6 +13,8 @@ public final class CompareTest {
     private final PlainHill y = new PlainHill();
     private final boolean great;
     private final StringBuilder calls = new StringBuilder();
+    private int callsMade;
+    private String differs;
 
     private CompareTest(int run) {
         random = new Random(run);
@@ -23,36 +25,43 @@ public final class CompareTest {
         for (int run = 0; run < RUNS; run++) {
             CompareTest one = new CompareTest(run);
             one.build();
-            String differs = null;
-            for (int k = 0; k < CALLS && differs == null; k++) {
-                differs = one.next();
+            while (one.callsMade < CALLS && one.differs == null) {
+                one.next();
             }
-            if (differs != null) {
-                System.out.println("run " + run + ": " + differs + " behind" + one.calls);
+            if (one.differs != null) {
+                System.out.println("run " + run + ": " + one.differs + " behind" + one.calls);
             }
-            Check.due("run " + run, differs == null, true);
-            if (differs != null) {
+            Check.due("run " + run, one.differs == null, true);
+            if (one.differs != null) {
                 break;
             }
         }
         Check.close();
     }
 
+    /** What a call answers; an exception that no throw statement of the two hills has thrown is told apart. */
     private static String told(LongSupplier call) {
         try {
             return Long.toString(call.getAsLong());
         } catch (RuntimeException e) {
-            return "throws." + e.getClass().getSimpleName();
+            StackTraceElement[] trace = e.getStackTrace();
+            boolean own = trace.length > 0 && trace[0].getClassName().matches("(SkiHill|PlainHill).*");
+            return (own ? "throws." : "the machine throws.") + e.getClass().getSimpleName();
         }
     }
 
-    private String same(String call, LongSupplier first, LongSupplier second) {
+    /** Makes a call on both hills and keeps the first answer that differs; nothing is asked of a hill behind its 512th call. */
+    private void same(String call, LongSupplier first, LongSupplier second) {
+        if (callsMade == CALLS || differs != null) {
+            return;
+        }
+        callsMade++;
         String got = told(first);
         String want = told(second);
-        if (calls.length() < 60000) {
-            calls.append("\n  ").append(call).append(": ").append(got);
+        calls.append("\n  ").append(call).append(": ").append(got);
+        if (!got.equals(want)) {
+            differs = call + " answered " + got + ", due is " + want;
         }
-        return got.equals(want) ? null : call + " answered " + got + ", due is " + want;
     }
 
     /** Mostly a number from least to most; now and then one beside them, or far off. */
@@ -101,81 +110,93 @@ public final class CompareTest {
         }
     }
 
-    private String newLift() {
+    private void newLift() {
         int a = place();
         int b = place();
         int c = pick(1, random.nextBoolean() ? 6 : 20);
         int d = pick(1, random.nextBoolean() ? 4 : 30);
         int e = pick(0, 200);
-        return same("lift(" + a + ", " + b + ", " + c + ", " + d + ", " + e + ")", () -> x.lift(a, b, c, d, e), () -> y.lift(a, b, c, d, e));
+        same("lift(" + a + ", " + b + ", " + c + ", " + d + ", " + e + ")", () -> x.lift(a, b, c, d, e), () -> y.lift(a, b, c, d, e));
     }
 
-    private String newSlope() {
+    private void newSlope() {
         int a = place();
         int b = place();
         int c = pick(1, random.nextBoolean() ? 4 : 20);
         int d = pick(0, 9);
         int e = pick(1, 4);
-        return same("slope(" + a + ", " + b + ", " + c + ", " + d + ", " + e + ")", () -> x.slope(a, b, c, d, e), () -> y.slope(a, b, c, d, e));
+        same("slope(" + a + ", " + b + ", " + c + ", " + d + ", " + e + ")", () -> x.slope(a, b, c, d, e), () -> y.slope(a, b, c, d, e));
     }
 
-    private String newGroup() {
+    private void newGroup() {
         int a = pick(1, 4);
         int b = pick(0, 9);
         int c = place();
-        return same("group(" + a + ", " + b + ", " + c + ")", () -> x.group(a, b, c), () -> y.group(a, b, c));
+        same("group(" + a + ", " + b + ", " + c + ")", () -> x.group(a, b, c), () -> y.group(a, b, c));
     }
 
-    private String newLink() {
+    private void newLink() {
         int a = cell();
         int b = cell();
         int c = pick(1, random.nextBoolean() ? 5 : 100);
-        return same("link(" + a + ", " + b + ", " + c + ")", () -> x.link(a, b, c), () -> y.link(a, b, c));
+        same("link(" + a + ", " + b + ", " + c + ")", () -> x.link(a, b, c), () -> y.link(a, b, c));
     }
 
-    private String next() {
+    private void next() {
         switch (random.nextInt(12)) {
             case 0:
-                return buildMore();
+                buildMore();
+                return;
             case 1:
             case 2:
-                return newRule();
+                newRule();
+                return;
             case 3:
-                return asksSlopes();
+                asksSlopes();
+                return;
             case 4:
             case 5:
-                return goesOn();
+                goesOn();
+                return;
             case 6:
             case 7:
-                return asksGroups();
+                asksGroups();
+                return;
             case 8:
-                return snows();
+                snows();
+                return;
             case 9:
-                return asksCells();
+                asksCells();
+                return;
             case 10:
-                return wants();
+                wants();
+                return;
             default:
-                return asksSums();
+                asksSums();
         }
     }
 
-    private String buildMore() {
+    private void buildMore() {
         switch (random.nextInt(4)) {
             case 0:
-                return newLift();
+                newLift();
+                return;
             case 1:
-                return newSlope();
+                newSlope();
+                return;
             case 2:
-                return newGroup();
+                newGroup();
+                return;
             default:
-                return newLink();
+                newLink();
         }
     }
 
-    private String newRule() {
+    private void newRule() {
         if (random.nextInt(4) == 0) {
             int s = slope();
-            return same("unrule(" + s + ")", () -> x.unrule(s) ? 1 : 0, () -> y.unrule(s) ? 1 : 0);
+            same("unrule(" + s + ")", () -> x.unrule(s) ? 1 : 0, () -> y.unrule(s) ? 1 : 0);
+            return;
         }
         String text = random.nextInt(8) == 0 ? pieces() : damaged(rule(random.nextInt(5)));
         if (text.length() > 400) {
@@ -186,18 +207,14 @@ public final class CompareTest {
             for (int n = 0; n < 20; n++) {
                 five[n / 4] = five[n / 4] << 8 | (k + n < text.length() ? text.charAt(k + n) : random.nextInt(256));
             }
-            String differs = same("feed", () -> x.feed(five[0], five[1], five[2], five[3], five[4]), () -> y.feed(five[0], five[1], five[2], five[3], five[4]));
-            if (differs != null) {
-                return differs;
-            }
+            same("feed", () -> x.feed(five[0], five[1], five[2], five[3], five[4]), () -> y.feed(five[0], five[1], five[2], five[3], five[4]));
         }
         int n = random.nextInt(40) == 0 ? pick(0, 400) : text.length();
-        String ends = same("end(" + n + ")", () -> x.end(n) ? 1 : 0, () -> y.end(n) ? 1 : 0);
+        same("end(" + n + ")", () -> x.end(n) ? 1 : 0, () -> y.end(n) ? 1 : 0);
         int s = slope();
-        String ruled = same("rule(" + s + ") of " + text, () -> x.rule(s), () -> y.rule(s));
+        same("rule(" + s + ") of " + text, () -> x.rule(s), () -> y.rule(s));
         int what = pick(0, 1);
-        String fault = same("fault(" + what + ")", () -> x.fault(what), () -> y.fault(what));
-        return ends != null ? ends : ruled != null ? ruled : fault;
+        same("fault(" + what + ")", () -> x.fault(what), () -> y.fault(what));
     }
 
     private String pieces() {
@@ -246,85 +263,93 @@ public final class CompareTest {
         }
     }
 
-    private String asksSlopes() {
+    private void asksSlopes() {
         int s = slope();
         int l = lift();
         switch (random.nextInt(4)) {
             case 0:
                 int v = pick(0, random.nextBoolean() ? 300 : 60);
-                return same("wind(" + v + ")", () -> {
+                same("wind(" + v + ")", () -> {
                     x.wind(v);
                     return 0;
                 }, () -> {
                     y.wind(v);
                     return 0;
                 });
+                return;
             case 1:
                 boolean on = random.nextInt(3) == 0;
-                return same("stop(" + l + ", " + on + ")", () -> x.stop(l, on) ? 1 : 0, () -> y.stop(l, on) ? 1 : 0);
+                same("stop(" + l + ", " + on + ")", () -> x.stop(l, on) ? 1 : 0, () -> y.stop(l, on) ? 1 : 0);
+                return;
             case 2:
-                return same("runs(" + l + ")", () -> x.runs(l) ? 1 : 0, () -> y.runs(l) ? 1 : 0);
+                same("runs(" + l + ")", () -> x.runs(l) ? 1 : 0, () -> y.runs(l) ? 1 : 0);
+                return;
             default:
-                return same("open(" + s + ")", () -> x.open(s) ? 1 : 0, () -> y.open(s) ? 1 : 0);
+                same("open(" + s + ")", () -> x.open(s) ? 1 : 0, () -> y.open(s) ? 1 : 0);
         }
     }
 
-    private String goesOn() {
+    private void goesOn() {
         int minutes = random.nextInt(60) == 0 ? pick(0, 600) : pick(0, random.nextBoolean() ? 2 : 12);
-        return same("step(" + minutes + ")", () -> x.step(minutes), () -> y.step(minutes));
+        same("step(" + minutes + ")", () -> x.step(minutes), () -> y.step(minutes));
     }
 
-    private String asksGroups() {
+    private void asksGroups() {
         int g = pick(0, (int) y.count(3) - 1);
         int l = lift();
         int k = pick(0, 6);
         int what = pick(0, 4);
         switch (random.nextInt(4)) {
             case 0:
-                return same("row(" + l + ", " + k + ")", () -> x.row(l, k), () -> y.row(l, k));
+                same("row(" + l + ", " + k + ")", () -> x.row(l, k), () -> y.row(l, k));
+                return;
             case 1:
                 int who = pick(0, 3);
-                return same("people(" + who + ")", () -> x.people(who), () -> y.people(who));
+                same("people(" + who + ")", () -> x.people(who), () -> y.people(who));
+                return;
             default:
-                return same("look(" + g + ", " + what + ")", () -> x.look(g, what), () -> y.look(g, what));
+                same("look(" + g + ", " + what + ")", () -> x.look(g, what), () -> y.look(g, what));
         }
     }
 
-    private String snows() {
+    private void snows() {
         int c = cell();
         boolean made = random.nextBoolean();
         int n = pick(0, great ? 100000 : 900);
         switch (random.nextInt(4)) {
             case 0:
                 int most = random.nextInt(5) == 0 ? pick(0, 1000000) : n;
-                return same("melt(" + c + ", " + most + ")", () -> x.melt(c, most), () -> y.melt(c, most));
+                same("melt(" + c + ", " + most + ")", () -> x.melt(c, most), () -> y.melt(c, most));
+                return;
             case 1:
-                return same("push(" + c + ")", () -> x.push(c), () -> y.push(c));
+                same("push(" + c + ")", () -> x.push(c), () -> y.push(c));
+                return;
             default:
-                return same("snow(" + c + ", " + made + ", " + n + ")", () -> x.snow(c, made, n), () -> y.snow(c, made, n));
+                same("snow(" + c + ", " + made + ", " + n + ")", () -> x.snow(c, made, n), () -> y.snow(c, made, n));
         }
     }
 
-    private String asksCells() {
+    private void asksCells() {
         int c = cell();
         int what = pick(0, 7);
-        return same("cell(" + c + ", " + what + ")", () -> x.cell(c, what), () -> y.cell(c, what));
+        same("cell(" + c + ", " + what + ")", () -> x.cell(c, what), () -> y.cell(c, what));
     }
 
-    private String wants() {
+    private void wants() {
         int c = cell();
         if (random.nextInt(3) == 0) {
             int v = random.nextInt(40) == 0 ? pick(-10000, 10000) : pick(-3, 40);
-            return same("price(" + c + ", " + v + ")", () -> {
+            same("price(" + c + ", " + v + ")", () -> {
                 x.price(c, v);
                 return 0;
             }, () -> {
                 y.price(c, v);
                 return 0;
             });
+            return;
         }
         int n = pick(0, great ? 60000 : 700);
-        return same("want(" + c + ", " + n + ")", () -> {
+        same("want(" + c + ", " + n + ")", () -> {
             x.want(c, n);
             return 0;
         }, () -> {
@@ -333,15 +358,17 @@ public final class CompareTest {
         });
     }
 
-    private String asksSums() {
+    private void asksSums() {
         int what = pick(0, 11);
         switch (random.nextInt(3)) {
             case 0:
-                return same("least()", x::least, y::least);
+                same("least()", x::least, y::least);
+                return;
             case 1:
-                return same("judge()", x::judge, y::judge);
+                same("judge()", x::judge, y::judge);
+                return;
             default:
-                return same("count(" + what + ")", () -> x.count(what), () -> y.count(what));
+                same("count(" + what + ")", () -> x.count(what), () -> y.count(what));
         }
     }
 }

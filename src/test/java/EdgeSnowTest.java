@@ -207,6 +207,9 @@ public final class EdgeSnowTest {
             if (k % 8 == 0) {
                 x.push(k / 8 % 5);
             }
+            if (k % 5 != 0) {
+                continue;
+            }
             int there = 0;
             for (int cell = 0; cell < 5; cell++) {
                 there += x.cell(cell, 0) + x.cell(cell, 1) + x.cell(cell, 2) + x.cell(cell, 3);

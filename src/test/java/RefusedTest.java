@@ -3,7 +3,8 @@ import java.util.NoSuchElementException;
 /**
  * The sentences behind section 4: of several exceptions the one told first is thrown, and a call that throws, as one that
  * answers NONE or false, or only asks, changes nothing. Each is made on one of two hills that are alike; then both are
- * asked for all there is, read their TAPES, go on for some minutes and are built on, and must answer the same.
+ * asked for all there is, or read their TAPES, go on for some minutes, are built on and asked then, and must answer the
+ * same. As an object is good for 512 calls, all this is done on new hills for each PART of what can be asked.
  */
 public final class RefusedTest {
     private static final int LOWEST = Integer.MIN_VALUE;
@@ -14,8 +15,14 @@ public final class RefusedTest {
     private static final Class<? extends RuntimeException> WHAT = NoSuchElementException.class;
     private static final Class<? extends RuntimeException> STATE = IllegalStateException.class;
 
+    private static final int PARTS = 6;
+
     interface Call {
         long of(SkiHill x);
+    }
+
+    interface Made {
+        SkiHill hill();
     }
 
     public static void main(String[] args) {
@@ -53,8 +60,8 @@ public final class RefusedTest {
         for (int k = 0; k < (full ? 80 : 7); k++) {
             x.link(k % cells, (k + 1 + k / cells) % cells, 5 + k);
         }
-        for (int k = 0; k < cells; k++) {
-            x.snow(k, k % 2 == 0, 400 + 10 * k);
+        for (int k = 0; k < cells; k += full ? 4 : 1) {
+            x.snow(k, k % 2 == 0 ^ k % 8 == 0, 400 + 10 * k);
             x.want(k, 395 + 11 * k % 40);
             x.price(k, k % 3);
         }
@@ -70,26 +77,26 @@ public final class RefusedTest {
         return x;
     }
 
-    /** All that can be asked. */
-    private static void tell(SkiHill x, boolean faults, StringBuilder told) {
-        for (int what = -1; what <= 12; what++) {
+    /** A part of all that can be asked. */
+    private static void tell(SkiHill x, int part, boolean faults, StringBuilder told) {
+        for (int what = -1 + part; what <= 12; what += PARTS) {
             told.append(" count ").append(x.count(what)).append(" people ").append(x.people(what));
         }
-        for (int k = 0; k < x.count(0); k++) {
+        for (int k = part, all = (int) x.count(0); k < all; k += PARTS) {
             told.append(" lift ").append(x.runs(k));
             for (int n = 0; x.row(k, n) != SkiHill.NONE; n++) {
                 told.append(' ').append(x.row(k, n));
             }
         }
-        for (int k = 0; k < x.count(1); k++) {
+        for (int k = part, all = (int) x.count(1); k < all; k += PARTS) {
             told.append(" open ").append(x.open(k));
         }
-        for (int k = 0; k < x.count(3); k++) {
+        for (int k = part, all = (int) x.count(3); k < all; k += PARTS) {
             for (int what = 0; what <= 4; what++) {
                 told.append(" look ").append(x.look(k, what));
             }
         }
-        for (int k = 0; k < x.count(2); k++) {
+        for (int k = part, all = (int) x.count(2); k < all; k += PARTS) {
             for (int what = 0; what <= 7; what++) {
                 told.append(" cell ").append(x.cell(k, what));
             }
@@ -108,40 +115,47 @@ public final class RefusedTest {
         }
     }
 
-    /** All that can be asked now and behind what comes then. */
-    private static String all(SkiHill x, boolean faults) {
-        StringBuilder told = new StringBuilder();
-        tell(x, faults, told);
-        told.append(" rule ").append(told(x, y -> y.rule(0)));
+    /** The TAPE is read, minutes go by, and what has room left is built on. */
+    private static void goOn(SkiHill x, StringBuilder told) {
+        told.append(" rule ").append(told(x, y -> y.rule(0))).append(' ').append(x.fault(0)).append(' ').append(x.open(0));
         told.append(" stops ").append(told(x, y -> y.stop(0, false) ? 1 : 0)).append(told(x, y -> y.stop(2, false) ? 1 : 0));
         x.step(9);
-        tell(x, true, told);
         told.append(" new ").append(told(x, y -> y.lift(0, 1, 2, 3, 4))).append(' ').append(told(x, y -> y.slope(0, 1, 2, 3, 1)));
         told.append(' ').append(told(x, y -> y.group(1, 2, 0))).append(' ').append(told(x, y -> y.link(0, 2, 9)));
         for (int slope = 0; slope < 4; slope++) {
             int one = slope;
             told.append(" had ").append(told(x, y -> y.unrule(one) ? 1 : 0));
         }
-        x.step(70);
-        tell(x, true, told);
-        return told.toString();
+        x.step(7);
     }
 
-    private static void same(String call, SkiHill x, SkiHill y, boolean faults) {
-        String due = all(y, faults);
-        String got = all(x, faults);
-        int at = 0;
-        while (at < due.length() && at < got.length() && due.charAt(at) == got.charAt(at)) {
-            at++;
+    private static void same(String call, boolean faults, Made changed, Made due) {
+        for (int part = 0; part < 2 * PARTS; part++) {
+            StringBuilder got = new StringBuilder();
+            StringBuilder want = new StringBuilder();
+            SkiHill x = changed.hill();
+            SkiHill y = due.hill();
+            if (part >= PARTS) {
+                goOn(x, got);
+                goOn(y, want);
+            }
+            tell(x, part % PARTS, faults, got);
+            tell(y, part % PARTS, faults, want);
+            int at = 0;
+            while (at < want.length() && at < got.length() && want.charAt(at) == got.charAt(at)) {
+                at++;
+            }
+            String beside = " changed something, first told at " + got.substring(Math.max(0, at - 30), Math.min(got.length(), at + 10));
+            Check.due(call + beside, got.toString().equals(want.toString()), true);
         }
-        String beside = " changed something, first told at " + got.substring(Math.max(0, at - 30), Math.min(got.length(), at + 10));
-        Check.due(call + beside, got.equals(due), true);
     }
 
     private static void refused(boolean full, String call, Class<? extends RuntimeException> want, Call made) {
-        SkiHill x = hill(full);
-        Check.thrown(call, want, () -> made.of(x));
-        same(call, x, hill(full), true);
+        same(call, true, () -> {
+            SkiHill x = hill(full);
+            Check.thrown(call, want, () -> made.of(x));
+            return x;
+        }, () -> hill(full));
     }
 
     /** What is refused for one reason alone. */
@@ -183,15 +197,17 @@ public final class RefusedTest {
         refused(full, "price", NUMBER, x -> price(x, 0, 10001));
         refused(full, "look", WHAT, x -> x.look(0, 5));
         refused(full, "cell", WHAT, x -> x.cell(0, 8));
-        Call apart = x -> {
-            x.price(0, 10000);
-            return x.judge();
-        };
+        same("judge", true, () -> {
+            SkiHill x = apart(full);
+            Check.thrown("judge", STATE, x::judge);
+            return x;
+        }, () -> apart(full));
+    }
+
+    private static SkiHill apart(boolean full) {
         SkiHill x = hill(full);
-        Check.thrown("judge", STATE, () -> apart.of(x));
-        SkiHill y = hill(full);
-        y.price(0, 10000);
-        same("judge", x, y, true);
+        x.price(0, 10000);
+        return x;
     }
 
     private static long wind(SkiHill x, int v) {
@@ -257,15 +273,19 @@ public final class RefusedTest {
 
     /** Here the TAPE alone is used up, so the other hill's is cut to nothing; what fault() tells of is held against the due. */
     private static void refusedRule(boolean full, int slope, String text, Class<? extends RuntimeException> want, int wrong, int circle) {
-        SkiHill x = hill(full);
-        SkiHill y = hill(full);
-        x.end(0);
-        y.end(0);
-        Check.text(x, text);
-        Check.thrown("rule(" + slope + ") of " + text, want, () -> x.rule(slope));
-        Check.due("fault(0) of " + text, x.fault(0), wrong);
-        Check.due("fault(1) of " + text, x.fault(1), circle);
-        same("rule(" + slope + ") of " + text, x, y, want == PLACE);
+        same("rule(" + slope + ") of " + text, want == PLACE, () -> {
+            SkiHill x = hill(full);
+            x.end(0);
+            Check.text(x, text);
+            Check.thrown("rule(" + slope + ") of " + text, want, () -> x.rule(slope));
+            Check.due("fault(0) of " + text, x.fault(0), wrong);
+            Check.due("fault(1) of " + text, x.fault(1), circle);
+            return x;
+        }, () -> {
+            SkiHill y = hill(full);
+            y.end(0);
+            return y;
+        });
     }
 
     private static void refusedRules(boolean full) {
@@ -289,9 +309,11 @@ public final class RefusedTest {
     }
 
     private static void nothing(boolean full, String call, long due, Call made) {
-        SkiHill x = hill(full);
-        Check.due(call, made.of(x), due);
-        same(call, x, hill(full), true);
+        same(call, true, () -> {
+            SkiHill x = hill(full);
+            Check.due(call, made.of(x), due);
+            return x;
+        }, () -> hill(full));
     }
 
     private static void quiet(boolean full) {
@@ -305,29 +327,35 @@ public final class RefusedTest {
             nothing(full, "row(0, " + none + ")", SkiHill.NONE, x -> x.row(0, none));
         }
         nothing(full, "step(0)", 8, x -> x.step(0));
-        nothing(full, "snow of none", 430, x -> x.snow(3, false, 0));
-        nothing(full, "melt of none", 0, x -> x.melt(3, 0));
+        nothing(full, "snow of none", 440, x -> x.snow(4, false, 0));
+        nothing(full, "melt of none", 0, x -> x.melt(4, 0));
         nothing(full, "stop as it was", 0, x -> x.stop(2, true) ? 1 : 0);
         nothing(full, "run as it did", 0, x -> x.stop(1, false) ? 1 : 0);
         nothing(full, "unrule of none", 0, x -> x.unrule(0) ? 1 : 0);
         // A full TAPE takes nothing more.
+        same("feed to 413", true, () -> {
+            SkiHill x = fullTape(full);
+            Check.due("feed to 413", x.feed(0, 0, 0, 0, 0), SkiHill.NONE);
+            return x;
+        }, () -> fullTape(full));
+    }
+
+    private static SkiHill fullTape(boolean full) {
         SkiHill x = hill(full);
-        SkiHill y = hill(full);
         for (int k = 0; k < 18; k++) {
             x.feed(0x20202020, 0x20202020, 0x20202020, 0x20202020, 0x20202020);
-            y.feed(0x20202020, 0x20202020, 0x20202020, 0x20202020, 0x20202020);
         }
-        Check.due("feed to 413", x.feed(0, 0, 0, 0, 0), SkiHill.NONE);
-        same("feed to 413", x, y, true);
+        return x;
     }
 
     private static void asks(boolean full) {
-        SkiHill x = hill(full);
-        StringBuilder once = new StringBuilder();
-        StringBuilder twice = new StringBuilder();
-        tell(x, true, once);
-        tell(x, true, twice);
-        Check.due("asked twice", once.toString().equals(twice.toString()), true);
-        same("asked twice", x, hill(full), true);
+        for (int part = 0; part < PARTS; part++) {
+            int asked = part;
+            same("asked for part " + part, true, () -> {
+                SkiHill x = hill(full);
+                tell(x, asked, true, new StringBuilder());
+                return x;
+            }, () -> hill(full));
+        }
     }
 }
